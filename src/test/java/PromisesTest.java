@@ -255,6 +255,8 @@ public final class PromisesTest {
         Checks.word(x, "ab");
         C.due("10: cut()", x.cut(), 3);
         keysAre("10", x, "=40 a=50 b=30");
+        C.due("10: branches then", x.told(1), 2);
+        C.due("10: the greatest bit then", x.told(7), 7);
         C.due("10: cut() again", x.cut(), 0);
         C.due("10: a cut of none is a deed too", x.told(10), 8);
         C.due("10: it can be undone", x.undo(1), 3);
@@ -310,6 +312,8 @@ public final class PromisesTest {
         Checks.word(x, "zz");
         C.due("12: drift(20)", x.drift(20), 12);
         C.due("12: worths", x.told(5), 6845);
+        C.due("12: branches", x.told(1), 11);
+        C.due("12: the greatest depth", x.told(3), 7);
         C.due("12: each time can be undone", x.told(10), 20);
         C.due("12: the word stays", x.told(2), 2);
         BitBranches byOne = new BitBranches();
@@ -531,6 +535,10 @@ public final class PromisesTest {
         BitBranches one = Checks.with("q");
         C.due("19: of one key, which", one.blind(0), 0);
         C.due("19: of one key, looks", one.blind(1), 0);
+        BitBranches two = Checks.with("q", "r");
+        Checks.word(two, "s");
+        C.due("19: of two keys, which", two.blind(0), 1);
+        C.due("19: of two keys, looks", two.blind(1), 1);
         C.due("19: of nothing, which", new BitBranches().blind(0), NONE);
         C.due("19: of nothing, looks", new BitBranches().blind(1), 0);
         for (int k = 0; k < 6; k++) {
