@@ -613,14 +613,20 @@ public final class BitBranches {
         }
 
         private void hang(int b, int first, int many, int above) {
+            if (first < 0 || first >= keyCount) {
+                return;
+            }
             if (many == 1) {
                 aboveKeys[first] = above;
+                return;
+            }
+            if (!has(b)) {
                 return;
             }
             firsts[b] = first;
             manyBelow[b] = many;
             aboves[b] = above;
-            depths[b] = above == NONE ? 0 : depths[above] + 1;
+            depths[b] = has(above) ? depths[above] + 1 : 0;
         }
 
         /** In order, keys turn from 0 to 1 at their SPLIT just once: at the least gap between neighbours. */
@@ -649,7 +655,7 @@ public final class BitBranches {
 
         int depthOfKey(int k) {
             int above = aboveKeys[k];
-            return above == NONE ? 0 : depths[above] + 1;
+            return has(above) ? depths[above] + 1 : 0;
         }
 
         int greatestDepth() {
@@ -690,7 +696,7 @@ public final class BitBranches {
                 return keyCount == 1 ? 0 : NONE;
             }
             int b = 0;
-            for (int looks = 0; looks < count(); looks++) {
+            for (int looks = 0; looks < count() && has(b); looks++) {
                 boolean right = word.bitAt(bits[b]) == 1;
                 int many = right ? manyBelow[b] - manyLeft[b] : manyLeft[b];
                 if (many == 1) {
@@ -707,7 +713,7 @@ public final class BitBranches {
                 return NONE;
             }
             int b = aboveKeys[k];
-            for (int d = depth - 1; d > i; d--) {
+            for (int d = depth - 1; d > i && has(b); d--) {
                 b = aboves[b];
             }
             return b;

@@ -56,7 +56,8 @@ public final class DrawsTest {
         x.seed(seed);
         int answer = x.drift(1);
         C.due(what + ": KEYS", answer, x.told(0));
-        C.holds(what + ": keys are " + keys + ", not " + Checks.keys(x), Checks.keys(x).equals(keys));
+        String got = Checks.keys(x);
+        C.holds(what + ": keys are " + keys + ", not " + got, got.equals(keys));
         C.due(what + ": THE SEED", x.seed(0), worthDrawn ? drawn.seedBehind : drawn.seedAhead);
     }
 

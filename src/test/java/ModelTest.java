@@ -9,6 +9,9 @@ public final class ModelTest {
     private final int run;
     /** How far apart letters lie: few letters make words that begin one another, many make bits of all kinds. */
     private final int kinds;
+    private final BitBranches x = new BitBranches();
+    private final Model m = new Model();
+    private int made;
 
     private ModelTest(int run) {
         this.run = run;
@@ -27,18 +30,35 @@ public final class ModelTest {
     }
 
     private void calls() {
-        BitBranches x = new BitBranches();
-        Model m = new Model();
-        for (int i = 0; i < 512 && checks.wrong() == 0; i++) {
+        if (run % 3 == 0) {
+            fill();
+        }
+        while (made < 512 && checks.wrong() == 0) {
             int call = pickCall();
             int a = random.nextInt(12) == 0 ? ODD[random.nextInt(ODD.length)] : pick(call, m.keysNow().size());
             int b = random.nextInt(12) == 0 ? ODD[random.nextInt(ODD.length)] : random.nextInt(14);
             if (call == 19 && random.nextInt(8) != 0) {
                 b = random.nextInt(25);
             }
-            checks.due("run " + run + ", call " + i + ": " + Calls.NAMES[call] + "(" + a + ", " + b + ")",
-                Calls.of(x, call, a, b), Calls.of(m, call, a, b));
+            both(call, a, b);
         }
+    }
+
+    /** Random calls seldom come near 24 keys by themselves, so a third of the runs begins there. */
+    private void fill() {
+        while (made < 300 && m.keysNow().size() < 24) {
+            both(1, 0, 0);
+            for (int letters = random.nextInt(9); letters > 0; letters--) {
+                both(0, pick(0, 0), 0);
+            }
+            both(6, pick(6, 0), 0);
+        }
+    }
+
+    private void both(int call, int a, int b) {
+        checks.due("run " + run + ", call " + made + ": " + Calls.NAMES[call] + "(" + a + ", " + b + ")",
+            Calls.of(x, call, a, b), Calls.of(m, call, a, b));
+        made++;
     }
 
     private int pickCall() {

@@ -122,8 +122,8 @@ final class States {
 
     private static String undoable(BitBranches x) {
         StringBuilder all = new StringBuilder("undone");
-        for (int keys = x.undo(1); keys >= 0; keys = x.undo(1)) {
-            all.append(' ').append(keys).append(':').append(x.told(5));
+        for (int i = 0; i <= 20; i++) {
+            all.append(' ').append(x.undo(1)).append(':').append(x.told(5));
         }
         return all + " at last " + Checks.keys(x);
     }

@@ -1,3 +1,5 @@
+import java.util.function.ToIntFunction;
+
 /** The sentences under 'Terms' on which the promises stand: words and their bits, order, keys, branches, depth, images. */
 public final class TermsTest {
     private static final int NONE = -1, UNKNOWN = -1000000001, NOT = -1000000003, FULL = -1000000004;
@@ -29,8 +31,11 @@ public final class TermsTest {
         withoutAmong24();
         taken();
         belowIsBeginsWith();
+        mostWorthOfThese();
         closestOfLikeOnes();
         blindWhateverIsAhead();
+        blindOfEachKey();
+        whatStaysBesideTheKeys();
         imagesKeepKeysWorthsSeed();
         imagesOfNoneAnd24();
         imageIsKeptAnew();
@@ -77,9 +82,9 @@ public final class TermsTest {
     }
 
     private static void bitOfALetter0() {
-        BitBranches x = new BitBranches();
         for (int letters = 1; letters <= 8; letters++) {
-            x.feed(0);
+            BitBranches x = new BitBranches();
+            Checks.word(x, "\0".repeat(letters));
             bitsAre(letters + " letters 0", x, "100000000".repeat(letters) + "000000000".repeat(8 - letters));
         }
     }
@@ -287,17 +292,32 @@ public final class TermsTest {
     /** "BELOW: KEYS that begin with THE WORD" - a letter 0 is a letter, and the end of a word is not one. */
     private static void belowIsBeginsWith() {
         BitBranches x = Checks.with("", "a", "a\0", "a\0\0", "a\u00ff", "b");
-        int[][] want = {{6, 0}, {4, 1}, {2, 2}, {1, 3}};
-        String[] words = {"", "a", "a\0", "a\0\0"};
+        String[] words = {"", "a", "a\0", "a\0\0", "a\0\0\0", "a\u00ff", "\u00ff"};
+        int[][] want = {{6, 0, 210, 5}, {4, 1, 140, 4}, {2, 2, 70, 3}, {1, 3, 40, 3}, {0, NONE, 0, NONE}, {1, 4, 50, 4}, {0, NONE, 0, NONE}};
         for (int i = 0; i < words.length; i++) {
             Checks.word(x, words[i]);
-            C.due("how many begin with " + i + " letters", x.below(0), want[i][0]);
-            C.due("the first that begins with " + i + " letters", x.below(1), want[i][1]);
+            for (int what = 0; what < 4; what++) {
+                C.due("BELOW of word " + i + ", " + what, x.below(what), want[i][what]);
+            }
         }
-        Checks.word(x, "a\0\0\0");
-        C.due("none begins with what is longer", x.below(0), 0);
-        Checks.word(x, "\u00ff");
-        C.due("none behind the last", x.below(1), NONE);
+    }
+
+    /** "the most worth one (of like ones the first)": neither a KEY ahead of them nor one behind them, though worth more */
+    private static void mostWorthOfThese() {
+        BitBranches x = new BitBranches();
+        String[] words = {"a", "b", "ba", "bb", "bc", "c"};
+        int[] worths = {9999, 3, 5, 5, 4, 9999};
+        for (int k = 0; k < words.length; k++) {
+            Checks.put(x, words[k], worths[k]);
+        }
+        Checks.word(x, "b");
+        C.due("the first of like ones", x.below(3), 2);
+        C.due("their worths alone", x.below(2), 17);
+        x.put(5);
+        C.due("the first, when it is alike", x.below(3), 1);
+        Checks.put(x, "bc", 6);
+        Checks.word(x, "b");
+        C.due("the last of them", x.below(3), 4);
     }
 
     /** "CLOSEST: the KEY with the most SHARED; of like ones the least." */
@@ -326,6 +346,50 @@ public final class TermsTest {
         C.due("one was looked at", x.blind(1), 1);
         Checks.word(x, "aaaaaaaa");
         C.due("CLOSEST and BLIND of a KEY are the KEY", x.blind(0), x.closest());
+    }
+
+    /** "till there is a KEY: which; how many BRANCHES were looked at" - a KEY comes to itself, over all BRANCHES on its WAY */
+    private static void blindOfEachKey() {
+        BitBranches[] trees = {States.full(), States.withMixed(States.lineToTheRight(0)), States.withMixed(States.lineToTheLeft()),
+            Checks.with("\0", "\1", "\2", "\3", "\u0080", "\u0081", "\u0082", "\u0083")};
+        for (int t = 0; t < trees.length; t++) {
+            BitBranches x = trees[t];
+            for (int k = 0; k < x.told(0); k++) {
+                x.type(k);
+                C.due("tree " + t + ": BLIND of KEY " + k, x.blind(0), k);
+                C.due("tree " + t + ": looks of KEY " + k, x.blind(1), x.key(k, 10));
+            }
+        }
+    }
+
+    /** THE WORD becomes another by feed(), wipe(), type() alone, THE SEED by seed(), drift(), goBack() alone. */
+    private static void whatStaysBesideTheKeys() {
+        wordAndSeedStay("put()", true, x -> x.put(3));
+        wordAndSeedStay("take()", true, BitBranches::take);
+        wordAndSeedStay("cut()", true, BitBranches::cut);
+        wordAndSeedStay("raise()", true, x -> x.raise(3));
+        wordAndSeedStay("undo()", true, x -> x.undo(2));
+        wordAndSeedStay("keep()", true, x -> x.keep(1));
+        wordAndSeedStay("drift()", false, x -> x.drift(5));
+        wordAndSeedStay("goBack()", false, x -> x.goBack(0));
+        wordAndSeedStay("seed()", false, x -> x.seed(9));
+    }
+
+    private static void wordAndSeedStay(String what, boolean seedToo, ToIntFunction<BitBranches> call) {
+        BitBranches x = new BitBranches();
+        x.keep(0);
+        Checks.put(x, "a", 1);
+        Checks.put(x, "a\u0080cdefg\1", 2);
+        x.seed(1234);
+        C.holds(what + " is not refused", call.applyAsInt(x) >= NONE);
+        C.due(what + ": LETTERS of THE WORD stay", x.told(2), 8);
+        C.due(what + ": its BITS stay", x.bit(10) * 10 + x.bit(71), 11);
+        if (seedToo) {
+            C.due(what + ": THE SEED stays", x.seed(0), 1234);
+        }
+        x.goBack(0);
+        C.due(what + ": IMAGE 0 stays", x.told(0), 0);
+        C.due(what + ": THE SEED of IMAGE 0 stays", x.seed(0), 0);
     }
 
     /** "IMAGES 0, 1 keep KEYS, worths, THE SEED." */
