@@ -2,7 +2,7 @@ import java.util.Random;
 
 /**
  * What the document says of one call by means of another, on many trees: what is asked must be what then happens. There is no
- * model here, so a misreading that the class and the model had in common would be seen.
+ * model here, so a fault that the class and the model have in common can be seen, where it sets two calls against one another.
  */
 public final class LawsTest {
     private static final int NONE = -1, NOT = -1000000003, FULL = -1000000004;
